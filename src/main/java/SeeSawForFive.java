@@ -10,6 +10,9 @@ public final class SeeSawForFive {
     private static final int APART = 1000000000;
     private static final int NOWHERE = 99;
 
+    /** The greatest int, too. */
+    private static final int ALL_BUT_SIGN = 0x7fffffff;
+
     private static final int LEFT = 0;
     private static final int LEVEL = 1;
     private static final int RIGHT = 2;
@@ -351,7 +354,7 @@ public final class SeeSawForFive {
         int best = NONE;
         for (int left = 11; left <= PARTING_LAST; left++) {
             for (int right = 11; right <= PARTING_LAST; right++) {
-                if (isOfParting(left) && isOfParting(right) && guessBy(one, left, right) != guessBy(other, left, right)) {
+                if (areParted(one, other, left, right)) {
                     best = many == 0 ? 100 * left + right : best;
                     many++;
                 }
@@ -530,6 +533,10 @@ public final class SeeSawForFive {
 
     private static boolean isWeightAndFeet(int told) {
         return told >= 11 && told <= 99 && told % 10 != 0;
+    }
+
+    private static boolean areParted(int one, int other, int left, int right) {
+        return isOfParting(left) && isOfParting(right) && guessBy(one, left, right) != guessBy(other, left, right);
     }
 
     /** Between 11 and PARTING_LAST the weight is of 1 .. 4 already: are the feet? */
@@ -833,7 +840,7 @@ public final class SeeSawForFive {
         }
 
         private static int drawn(int z, int below) {
-            return below < 1 ? 0 : (z & Integer.MAX_VALUE) / 256 % below;
+            return below < 1 ? 0 : (z & ALL_BUT_SIGN) / 256 % below;
         }
 
         private int ownTurnBy(int anyNotch) {
@@ -991,7 +998,7 @@ public final class SeeSawForFive {
                 }
             }
             quiet = 0;
-            leastBang = Integer.MAX_VALUE;
+            leastBang = ALL_BUT_SIGN;
             goThrough(0, 0, board.ownTurn(), 0);
         }
 
@@ -1075,7 +1082,7 @@ public final class SeeSawForFive {
         /** The bucket that parts the weights looked at best. */
         int bestBucket(Board board, int seat, int sitter) {
             int best = NONE;
-            int least = Integer.MAX_VALUE;
+            int least = ALL_BUT_SIGN;
             for (int bucket = 1; bucket <= MOST_BUCKET; bucket++) {
                 int greatest = greatestPart(board.ownTurn() + bucket * board.armOf(seat), board.armOf(sitter));
                 if (greatest < least) {

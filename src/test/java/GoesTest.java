@@ -6,6 +6,7 @@ public final class GoesTest {
         noBucketStood();
         ownAndNotchAsNow();
         next();
+        nextOfFew();
         Due.end("GoesTest");
     }
 
@@ -118,5 +119,19 @@ public final class GoesTest {
         Due.is("one fits: the least bucket", x.next(2, -2), 1);
         x.go(2, 0, 0, 0);
         Due.is("none fits", x.next(2, -2), -9);
+    }
+
+    private static void nextOfFew() {
+        SeeSawForFive x = new SeeSawForFive();
+        x.go(1, 4, -1, 2);
+        x.go(1, 8, -1, 0);
+        fits(x, 3, 5, 7);
+        // 5, 6 and 7 come apart by 6 alone
+        Due.is("next(-1, 1)", x.next(-1, 1), 6);
+        Due.is("next(1, -1)", x.next(1, -1), 6);
+        // 2 w of 10, 12, 14 against 3 buckets: 9, 12
+        Due.is("next(-3, 2)", x.next(-3, 2), 4);
+        SeeSawForFive still = Due.of("t3;");
+        Due.is("an arm of 0 parts none", still.next(-1, 1), 1);
     }
 }
