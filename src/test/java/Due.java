@@ -2,14 +2,22 @@
 final class Due {
     private static int looked = 0;
     private static int wrong = 0;
+    private static int sentences = 0;
+    private static String sentence = "";
 
     private Due() { }
+
+    /** From here on it is this sentence of the document that the answers are looked at for. */
+    static void about(String words) {
+        sentences++;
+        sentence = "[" + words + "] ";
+    }
 
     static void is(String call, long got, long want) {
         looked++;
         if (got != want) {
             wrong++;
-            System.out.println(call + " answered " + got + ", due is " + want);
+            System.out.println(sentence + call + " answered " + got + ", due is " + want);
         }
     }
 
@@ -30,7 +38,8 @@ final class Due {
     }
 
     static void end(String name) {
-        System.out.println(name + ": " + looked + " answers looked at, " + wrong + " wrong");
+        String about = sentences == 0 ? "" : " for " + sentences + " sentences";
+        System.out.println(name + ": " + looked + " answers looked at" + about + ", " + wrong + " wrong");
         if (wrong != 0 || looked == 0) {
             System.exit(1);
         }
